@@ -1,16 +1,24 @@
+import java.util.Arrays;
+
 /** Promises 1 to 6: a new object, set, flip, relabel, negate, entry. */
 public final class ChangesTest {
-    private static final int[] SOME = {1, 2, 3, 4, 5, 6, 7, 8, 9, -1, -2, -3, -4, -5, -6, -7};
+    private static final int[] SOME = Check.SOME;
 
     public static void main(String[] args) {
         newObject();
         set();
-        setWrong();
+        setTakesMinus9To9();
+        setBadPlace();
+        setBadEntry();
+        setTestsThePlaceFirst();
         flip();
+        flipOfEachPlace();
         relabel();
-        relabelWrong();
+        relabelOfEachPair();
+        relabelBadPlace();
         negate();
-        entryWrong();
+        negateOfEachEntry();
+        entryBadPlace();
         objectsAreApart();
         Check.end();
     }
@@ -27,26 +35,50 @@ public final class ChangesTest {
             entries[cell] = SOME[cell];
             Check.dueEntries("set " + cell, traits, entries);
         }
-        for (int entry = -9; entry <= 9; entry++) {
-            Check.due("set(2, 1, " + entry + ")", traits.set(2, 1, entry), 0);
-            Check.due("entry(2, 1)", traits.entry(2, 1), entry);
-        }
     }
 
-    private static void setWrong() {
-        MatrixTraits traits = Check.table(SOME);
-        Check.eachBadPlace(place -> {
-            String call = "set(" + place[0] + ", " + place[1] + ", ..)";
-            Check.due(call, traits.set(place[0], place[1], 5), MatrixTraits.BAD_PLACE);
-            // The place is tested ahead of the entry.
-            Check.due(call, traits.set(place[0], place[1], 10), MatrixTraits.BAD_PLACE);
+    private static void setTakesMinus9To9() {
+        Check.eachPlace((row, column) -> {
+            MatrixTraits traits = new MatrixTraits();
+            for (int entry = -9; entry <= 9; entry++) {
+                String call = "set(" + row + ", " + column + ", " + entry + ")";
+                Check.due(call, traits.set(row, column, entry), 0);
+                Check.due(call + ", entry", traits.entry(row, column), entry);
+            }
         });
-        int[] entries = {-10, 10, 11, 100, 256, Integer.MIN_VALUE, Integer.MAX_VALUE};
-        for (int entry : entries) {
-            Check.due("set(0, 3, " + entry + ")", traits.set(0, 3, entry), MatrixTraits.BAD_ENTRY);
-            Check.due("set(3, 0, " + entry + ")", traits.set(3, 0, entry), MatrixTraits.BAD_ENTRY);
-        }
-        Check.dueEntries("after wrong sets", traits, SOME);
+    }
+
+    private static void setBadPlace() {
+        Check.eachBadPlace((row, column) -> {
+            MatrixTraits traits = Check.table(SOME);
+            for (int entry : new int[] {-9, 0, 9}) {
+                String call = "set(" + row + ", " + column + ", " + entry + ")";
+                Check.due(call, traits.set(row, column, entry), MatrixTraits.BAD_PLACE);
+                Check.dueEntries("after " + call, traits, SOME);
+            }
+        });
+    }
+
+    private static void setBadEntry() {
+        Check.eachPlace((row, column) -> {
+            for (int entry : Check.notIn(-9, 9)) {
+                MatrixTraits traits = Check.table(SOME);
+                String call = "set(" + row + ", " + column + ", " + entry + ")";
+                Check.due(call, traits.set(row, column, entry), MatrixTraits.BAD_ENTRY);
+                Check.dueEntries("after " + call, traits, SOME);
+            }
+        });
+    }
+
+    private static void setTestsThePlaceFirst() {
+        Check.eachBadPlace((row, column) -> {
+            MatrixTraits traits = Check.table(SOME);
+            for (int entry : Check.notIn(-9, 9)) {
+                String call = "set(" + row + ", " + column + ", " + entry + ")";
+                Check.due(call, traits.set(row, column, entry), MatrixTraits.BAD_PLACE);
+            }
+            Check.dueEntries("after set with two faults", traits, SOME);
+        });
     }
 
     private static void flip() {
@@ -56,6 +88,17 @@ public final class ChangesTest {
                 1, 5, 9, -4, 2, 6, -1, -5, 3, 7, -2, -6, 4, 8, -3, -7);
         traits.flip();
         Check.dueEntries("flip twice", traits, SOME);
+    }
+
+    private static void flipOfEachPlace() {
+        Check.eachPlace((row, column) -> {
+            MatrixTraits traits = new MatrixTraits();
+            traits.set(row, column, 9);
+            traits.flip();
+            int[] due = new int[16];
+            due[4 * column + row] = 9;
+            Check.dueEntries("flip of (" + row + ", " + column + ")", traits, due);
+        });
     }
 
     private static void relabel() {
@@ -68,20 +111,27 @@ public final class ChangesTest {
         Check.due("relabel(3, 1)", traits.relabel(3, 1), 0);
         Check.dueEntries("relabel(3, 1)", traits,
                 1, 4, 3, 2, -4, -7, -6, -5, 9, -3, -2, -1, 5, 8, 7, 6);
-        Check.due("relabel(1, 3)", traits.relabel(1, 3), 0);
-        for (int number = 0; number < 4; number++) {
-            Check.due("relabel with itself", traits.relabel(number, number), 0);
-            Check.dueEntries("relabel with itself", traits, SOME);
-        }
     }
 
-    private static void relabelWrong() {
-        MatrixTraits traits = Check.table(SOME);
-        Check.eachBadPlace(place -> {
-            String call = "relabel(" + place[0] + ", " + place[1] + ")";
-            Check.due(call, traits.relabel(place[0], place[1]), MatrixTraits.BAD_PLACE);
+    /** A number with itself too: then its part stays its own. */
+    private static void relabelOfEachPair() {
+        Check.eachPlace((a, b) -> {
+            MatrixTraits traits = Check.table(SOME);
+            Model model = Model.of(SOME);
+            model.relabel(a, b);
+            String call = "relabel(" + a + ", " + b + ")";
+            Check.due(call, traits.relabel(a, b), 0);
+            Check.dueEntries(call, traits, a.equals(b) ? SOME : model.entries());
         });
-        Check.dueEntries("after wrong relabels", traits, SOME);
+    }
+
+    private static void relabelBadPlace() {
+        Check.eachBadPlace((a, b) -> {
+            MatrixTraits traits = Check.table(SOME);
+            String call = "relabel(" + a + ", " + b + ")";
+            Check.due(call, traits.relabel(a, b), MatrixTraits.BAD_PLACE);
+            Check.dueEntries("after " + call, traits, SOME);
+        });
     }
 
     private static void negate() {
@@ -93,19 +143,31 @@ public final class ChangesTest {
         Check.dueEntries("negate twice", traits, SOME);
     }
 
-    private static void entryWrong() {
-        MatrixTraits traits = Check.table(SOME);
-        Check.eachBadPlace(place -> {
-            String call = "entry(" + place[0] + ", " + place[1] + ")";
-            Check.due(call, traits.entry(place[0], place[1]), MatrixTraits.BAD_PLACE);
+    /** From -9 to 9, in every place; 0 stays 0. */
+    private static void negateOfEachEntry() {
+        for (int entry = -9; entry <= 9; entry++) {
+            MatrixTraits traits = Check.allEqual(entry);
+            traits.negate();
+            int[] due = new int[16];
+            Arrays.fill(due, -entry);
+            Check.dueEntries("negate of " + entry, traits, due);
+        }
+    }
+
+    private static void entryBadPlace() {
+        Check.eachBadPlace((row, column) -> {
+            String call = "entry(" + row + ", " + column + ")";
+            int filled = Check.table(SOME).entry(row, column);
+            Check.due(call, filled, MatrixTraits.BAD_PLACE);
+            Check.due("new: " + call, new MatrixTraits().entry(row, column), MatrixTraits.BAD_PLACE);
         });
     }
 
     private static void objectsAreApart() {
         MatrixTraits one = new MatrixTraits();
         MatrixTraits other = Check.table(SOME);
-        Check.dueEntries("the other object", one, new int[16]);
+        Check.dueEntries("the one object", one, new int[16]);
         one.set(0, 0, 8);
-        Check.dueEntries("the one object", other, SOME);
+        Check.dueEntries("the other object", other, SOME);
     }
 }

@@ -1,7 +1,11 @@
-import java.util.function.Consumer;
+import java.util.function.BiConsumer;
+import java.util.stream.IntStream;
 
 /** Counts the answers that are not as due, and makes tables for the tests. */
 final class Check {
+    /** A table without a 0, a repeated entry or a likeness between rows and columns. */
+    static final int[] SOME = {1, 2, 3, 4, 5, 6, 7, 8, 9, -1, -2, -3, -4, -5, -6, -7};
+
     private static int wrong = 0;
     private static int asked = 0;
 
@@ -51,14 +55,36 @@ final class Check {
         }
     }
 
-    /** Places of which at least one number is not in 0 to 3. */
-    static void eachBadPlace(Consumer<int[]> use) {
-        int[] numbers = {0, 3, -1, 4, 16, -4, Integer.MIN_VALUE, Integer.MAX_VALUE};
-        for (int row : numbers) {
-            for (int column : numbers) {
-                if (row < 0 || row > 3 || column < 0 || column > 3) {
-                    use.accept(new int[] {row, column});
-                }
+    /** Not in least to greatest: the first past each end, farther ones, the least and greatest int. */
+    static int[] notIn(int least, int greatest) {
+        // Some of these come back inside when cut to a byte or a short, or when taken four times.
+        return IntStream.of(
+                least - 1, greatest + 1, least - 2, greatest + 2,
+                least - 256, least + 256, greatest - 256, greatest + 256,
+                least - 65536, least + 65536, greatest - 65536, greatest + 65536,
+                -(1 << 30), 1 << 30, Integer.MIN_VALUE, Integer.MAX_VALUE)
+                .filter(number -> number < least || number > greatest)
+                .toArray();
+    }
+
+    /** Places of which the row, the column or both are not in 0 to 3. */
+    static void eachBadPlace(BiConsumer<Integer, Integer> use) {
+        int[] bad = notIn(0, 3);
+        for (int number : bad) {
+            for (int good = 0; good < 4; good++) {
+                use.accept(number, good);
+                use.accept(good, number);
+            }
+            for (int other : bad) {
+                use.accept(number, other);
+            }
+        }
+    }
+
+    static void eachPlace(BiConsumer<Integer, Integer> use) {
+        for (int row = 0; row < 4; row++) {
+            for (int column = 0; column < 4; column++) {
+                use.accept(row, column);
             }
         }
     }

@@ -5,6 +5,24 @@ final class Model {
     static final BigInteger ZERO = BigInteger.ZERO;
     final int[][] a = new int[4][4];
 
+    /** A model with these sixteen entries, row after row. */
+    static Model of(int... entries) {
+        Model model = new Model();
+        for (int cell = 0; cell < 16; cell++) {
+            model.a[cell / 4][cell % 4] = entries[cell];
+        }
+        return model;
+    }
+
+    /** The sixteen entries, row after row. */
+    int[] entries() {
+        int[] entries = new int[16];
+        for (int cell = 0; cell < 16; cell++) {
+            entries[cell] = a[cell / 4][cell % 4];
+        }
+        return entries;
+    }
+
     void flip() {
         int[][] old = copy();
         for (int i = 0; i < 4; i++) {
@@ -75,7 +93,7 @@ final class Model {
     }
 
     /** + for an even number of pairs out of order, - for an odd one, 0 if a column comes twice. */
-    private static int sign(int[] column) {
+    static int sign(int[] column) {
         int sign = 1;
         for (int i = 0; i < column.length; i++) {
             for (int j = i + 1; j < column.length; j++) {

@@ -1,12 +1,14 @@
 /** Promises 11, 12 and 15: powerTrace, powerEntry, vanishes. */
 public final class PowersTest {
-    private static final int[] WRONG = {-1, 61, 64, -60, Integer.MIN_VALUE, Integer.MAX_VALUE};
-
     public static void main(String[] args) {
         powerTrace();
+        powerTraceOtherNumbers();
         powerEntry();
-        powerEntryWrong();
+        powerEntryBadPlace();
+        powerEntryBadNumber();
+        powerEntryTestsThePlaceFirst();
         vanishes();
+        vanishesOffTheDiagonal();
         Check.end();
     }
 
@@ -23,8 +25,15 @@ public final class PowersTest {
             b *= -2;
             c *= 9;
         }
-        for (int n : WRONG) {
+        Check.due("new: powerTrace(60)", new MatrixTraits().powerTrace(60), 0);
+    }
+
+    private static void powerTraceOtherNumbers() {
+        MatrixTraits traits = Check.table(Check.SOME);
+        MatrixTraits zero = new MatrixTraits();
+        for (int n : Check.notIn(0, 60)) {
             Check.due("powerTrace(" + n + ")", traits.powerTrace(n), MatrixTraits.BAD_NUMBER);
+            Check.due("new: powerTrace(" + n + ")", zero.powerTrace(n), MatrixTraits.BAD_NUMBER);
         }
     }
 
@@ -48,18 +57,39 @@ public final class PowersTest {
         }
     }
 
-    private static void powerEntryWrong() {
-        MatrixTraits traits = Check.allEqual(2);
-        Check.eachBadPlace(place -> {
-            String call = "powerEntry(" + place[0] + ", " + place[1] + ", ..)";
-            Check.due(call, traits.powerEntry(place[0], place[1], 2), MatrixTraits.BAD_PLACE);
-            // The place is tested ahead of n.
-            Check.due(call, traits.powerEntry(place[0], place[1], 61), MatrixTraits.BAD_PLACE);
+    private static void powerEntryBadPlace() {
+        Check.eachBadPlace((row, column) -> {
+            MatrixTraits traits = Check.allEqual(2);
+            for (int n : new int[] {0, 1, 60}) {
+                String call = "powerEntry(" + row + ", " + column + ", " + n + ")";
+                Check.due(call, traits.powerEntry(row, column, n), MatrixTraits.BAD_PLACE);
+            }
         });
-        for (int n : WRONG) {
-            String call = "powerEntry(3, 0, " + n + ")";
-            Check.due(call, traits.powerEntry(3, 0, n), MatrixTraits.BAD_NUMBER);
-        }
+    }
+
+    /** In each place, with the last good numbers beside the bad ones. */
+    private static void powerEntryBadNumber() {
+        Check.eachPlace((row, column) -> {
+            MatrixTraits ones = Check.table(0, 1, 0, 0, 0, 0, 1, 0, 0, 0, 0, 1, 1, 0, 0, 0);
+            String place = "powerEntry(" + row + ", " + column + ", ";
+            int due = row.equals(column) ? 1 : 0;
+            // Four steps around bring every row back, and so do sixty.
+            Check.due(place + "0)", ones.powerEntry(row, column, 0), due);
+            Check.due(place + "60)", ones.powerEntry(row, column, 60), due);
+            for (int n : Check.notIn(0, 60)) {
+                Check.due(place + n + ")", ones.powerEntry(row, column, n), MatrixTraits.BAD_NUMBER);
+            }
+        });
+    }
+
+    private static void powerEntryTestsThePlaceFirst() {
+        Check.eachBadPlace((row, column) -> {
+            MatrixTraits traits = Check.allEqual(2);
+            for (int n : Check.notIn(0, 60)) {
+                String call = "powerEntry(" + row + ", " + column + ", " + n + ")";
+                Check.due(call, traits.powerEntry(row, column, n), MatrixTraits.BAD_PLACE);
+            }
+        });
     }
 
     private static void vanishes() {
@@ -82,5 +112,14 @@ public final class PowersTest {
             single.set(i, i, -1);
             Check.due("single " + i + ": vanishes()", single.vanishes(), false);
         }
+    }
+
+    /** Three go around, so that the fourth power is the table again: its diagonal alone is 0. */
+    private static void vanishesOffTheDiagonal() {
+        MatrixTraits around = Check.table(0, 1, 0, 0, 0, 0, 1, 0, 1, 0, 0, 0, 0, 0, 0, 0);
+        Check.due("around: vanishes()", around.vanishes(), false);
+        // The farthest entries: the fourth power of all 9 has 9 * 36^3 everywhere.
+        Check.due("all 9: vanishes()", Check.allEqual(9).vanishes(), false);
+        Check.due("all -9: vanishes()", Check.allEqual(-9).vanishes(), false);
     }
 }

@@ -4,7 +4,8 @@ public final class RankTest {
         diagonals();
         singleMinors();
         dependentRows();
-        edges();
+        ends();
+        otherNumbers();
         Check.end();
     }
 
@@ -56,13 +57,28 @@ public final class RankTest {
                 Check.table(1, 2, 0, 1, 0, 1, 3, 1, 2, 0, 1, 1, 3, 3, 4, 3).rankAt(0), 3);
     }
 
-    private static void edges() {
+    /** Every x from -40 to 40; past 36 no table has a determinant of 0. */
+    private static void ends() {
+        int[][] tables = {
+            new int[16], Check.SOME, {9, 9, 9, 9, 9, 9, 9, 9, 9, 9, 9, 9, 9, 9, 9, 9},
+            {-9, 0, 0, 0, 0, -9, 0, 0, 0, 0, -9, 0, 0, 0, 0, -9}
+        };
+        for (int[] entries : tables) {
+            MatrixTraits traits = Check.table(entries);
+            Model model = Model.of(entries);
+            for (int x = -40; x <= 40; x++) {
+                int due = x < -36 || x > 36 ? 4 : model.rankAt(x);
+                Check.due(entries[0] + " ..: rankAt(" + x + ")", traits.rankAt(x), due);
+            }
+        }
+    }
+
+    private static void otherNumbers() {
         MatrixTraits traits = Check.allEqual(9);
-        Check.due("rankAt(40)", traits.rankAt(40), 4);
-        Check.due("rankAt(-40)", traits.rankAt(-40), 4);
-        int[] others = {41, -41, 72, Integer.MIN_VALUE, Integer.MAX_VALUE};
-        for (int x : others) {
+        MatrixTraits zero = new MatrixTraits();
+        for (int x : Check.notIn(-40, 40)) {
             Check.due("rankAt(" + x + ")", traits.rankAt(x), MatrixTraits.BAD_NUMBER);
+            Check.due("new: rankAt(" + x + ")", zero.rankAt(x), MatrixTraits.BAD_NUMBER);
         }
     }
 }
