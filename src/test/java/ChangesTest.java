@@ -85,7 +85,7 @@ public final class ChangesTest {
         MatrixTraits traits = Check.table(SOME);
         traits.flip();
         Check.dueEntries("flip", traits,
-                1, 5, 9, -4, 2, 6, -1, -5, 3, 7, -2, -6, 4, 8, -3, -7);
+                2, 5, -6, 8, -1, 7, -3, 6, 4, -2, 9, -5, 1, -7, -8, -4);
         traits.flip();
         Check.dueEntries("flip twice", traits, SOME);
     }
@@ -105,12 +105,12 @@ public final class ChangesTest {
         MatrixTraits traits = Check.table(SOME);
         Check.due("relabel(0, 2)", traits.relabel(0, 2), 0);
         Check.dueEntries("relabel(0, 2)", traits,
-                -2, -1, 9, -3, 7, 6, 5, 8, 3, 2, 1, 4, -6, -5, -4, -7);
+                9, -3, -6, -8, -2, 7, 5, -7, 4, -1, 2, 1, -5, 6, 8, -4);
         Check.due("relabel(2, 0)", traits.relabel(2, 0), 0);
         Check.dueEntries("relabel and back", traits, SOME);
         Check.due("relabel(3, 1)", traits.relabel(3, 1), 0);
         Check.dueEntries("relabel(3, 1)", traits,
-                1, 4, 3, 2, -4, -7, -6, -5, 9, -3, -2, -1, 5, 8, 7, 6);
+                2, 1, 4, -1, 8, -4, -5, 6, -6, -8, 9, -3, 5, -7, -2, 7);
     }
 
     /** A number with itself too: then its part stays its own. */
@@ -138,7 +138,7 @@ public final class ChangesTest {
         MatrixTraits traits = Check.table(SOME);
         traits.negate();
         Check.dueEntries("negate", traits,
-                -1, -2, -3, -4, -5, -6, -7, -8, -9, 1, 2, 3, 4, 5, 6, 7);
+                -2, 1, -4, -1, -5, -7, 2, 7, 6, 3, -9, 8, -8, -6, 5, 4);
         traits.negate();
         Check.dueEntries("negate twice", traits, SOME);
     }

@@ -3,8 +3,8 @@ import java.util.stream.IntStream;
 
 /** Counts the answers that are not as due, and makes tables for the tests. */
 final class Check {
-    /** A table without a 0, a repeated entry or a likeness between rows and columns. */
-    static final int[] SOME = {1, 2, 3, 4, 5, 6, 7, 8, 9, -1, -2, -3, -4, -5, -6, -7};
+    /** No 0 and no entry twice; no cofactor is 0, and no two have the same size; p(3) = 0. */
+    static final int[] SOME = {2, -1, 4, 1, 5, 7, -2, -7, -6, -3, 9, -8, 8, 6, -5, -4};
 
     private static int wrong = 0;
     private static int asked = 0;

@@ -7,11 +7,38 @@ import java.util.TreeSet;
 /** The public face: the document's members, and none beside them. */
 public final class FaceTest {
     public static void main(String[] args) {
-        Check.due("BAD_PLACE", MatrixTraits.BAD_PLACE, -1);
-        Check.due("BAD_ENTRY", MatrixTraits.BAD_ENTRY, -2);
-        Check.due("BAD_NUMBER", MatrixTraits.BAD_NUMBER, -3);
+        constants();
+        kindOfClass();
+        members();
+        Check.end();
+    }
+
+    private static void constants() {
+        Check.due("-1", nameOf(-1), "BAD_PLACE");
+        Check.due("-2", nameOf(-2), "BAD_ENTRY");
+        Check.due("-3", nameOf(-3), "BAD_NUMBER");
+    }
+
+    /** A switch, as its labels must be constants when this is compiled. */
+    private static String nameOf(int answer) {
+        return switch (answer) {
+            case MatrixTraits.BAD_PLACE -> "BAD_PLACE";
+            case MatrixTraits.BAD_ENTRY -> "BAD_ENTRY";
+            case MatrixTraits.BAD_NUMBER -> "BAD_NUMBER";
+            default -> "none";
+        };
+    }
+
+    private static void kindOfClass() {
         Check.due("class", MatrixTraits.class.toString(), "class MatrixTraits");
         Check.due("modifiers", MatrixTraits.class.getModifiers(), Modifier.PUBLIC | Modifier.FINAL);
+        // What a class above it or beside it brought along could be seen from outside too.
+        Check.due("superclass", MatrixTraits.class.getSuperclass(), Object.class);
+        Check.due("interfaces", MatrixTraits.class.getInterfaces().length, 0);
+        Check.due("nested classes", MatrixTraits.class.getDeclaredClasses().length, 0);
+    }
+
+    private static void members() {
         Check.due("constructors", MatrixTraits.class.getDeclaredConstructors().length, 1);
         Check.due("constructor", MatrixTraits.class.getDeclaredConstructors()[0].toString(),
                 "public MatrixTraits()");
@@ -34,7 +61,6 @@ public final class FaceTest {
                 "public int MatrixTraits.roots()",
                 "public int MatrixTraits.rankAt(int)",
                 "public boolean MatrixTraits.vanishes()"));
-        Check.end();
     }
 
     private static Set<String> fields() {
